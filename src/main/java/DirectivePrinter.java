@@ -42,13 +42,13 @@ public final class DirectivePrinter {
 
     public DirectivePrinter() {
         format = new Row(MOST_IN_FORMAT);
-        paper = new Row(MOST_PRINTED);
         arguments = new Argument[MOST_ARGUMENTS];
         for (int i = 0; i < arguments.length; i++) {
             arguments[i] = new Argument();
         }
         directive = new Directive();
-        composer = new Composer(paper);
+        composer = new Composer();
+        paper = composer.paper;
         argumentCount = 0;
         lastFault = NO_FAULT;
         lastPlace = NONE;
@@ -189,32 +189,19 @@ public final class DirectivePrinter {
     /** Answers where the directive's last character stands. */
     private int runDirective(int at) {
         directive.read(format, at);
+        Argument argument = null;
         int found = directive.faultOfForm();
+        if (found == NO_FAULT && directive.takesArgument()) {
+            previousArgument = chooseArgument();
+            argument = argumentNumbered(previousArgument);
+            found = faultOfArgument(argument);
+        }
         if (found == NO_FAULT) {
-            found = directive.takesArgument() ? runWithArgument() : runWithout();
+            composer.compose(directive, argument);
+            found = faultOfLength();
         }
         blame(found, at);
         return directive.last();
-    }
-
-    private int runWithout() {
-        composer.composeBare(directive);
-        return faultOfLength();
-    }
-
-    private int runWithArgument() {
-        int number = chooseArgument();
-        Argument argument = argumentNumbered(number);
-        if (argument == null) {
-            return NO_SUCH_ARGUMENT;
-        }
-        previousArgument = number;
-        int found = argument.faultWith(directive.smallConversion());
-        if (found != NO_FAULT) {
-            return found;
-        }
-        composer.compose(directive, argument);
-        return faultOfLength();
     }
 
     /** Answers 0, which numbers no argument, when < has no directive to look back to. */
@@ -227,6 +214,10 @@ public final class DirectivePrinter {
         }
         unnumbered++;
         return unnumbered;
+    }
+
+    private int faultOfArgument(Argument argument) {
+        return argument == null ? NO_SUCH_ARGUMENT : argument.faultWith(directive.smallConversion());
     }
 
     private int faultOfLength() {
@@ -285,9 +276,16 @@ public final class DirectivePrinter {
             }
         }
 
-        /** Adds n times the same, and goes no farther than the room however large n is. */
+        /** Goes no farther than the room, however large n is. */
         void addMany(char c, int n) {
-            insert(length, c, n);
+            if (n <= 0 || length < 0) {
+                return;
+            }
+            int end = Math.min(length + n, kept.length);
+            for (int i = length; i < end; i++) {
+                kept[i] = c;
+            }
+            length += n;
         }
 
         void insert(int at, char c, int n) {
@@ -338,6 +336,10 @@ public final class DirectivePrinter {
 
         boolean isFalse() {
             return kind == Kind.NOTHING || (kind == Kind.TRUTH && value == 0L);
+        }
+
+        int scale() {
+            return kind == Kind.DECIMAL ? size : 0;
         }
 
         int faultWith(char conversion) {
@@ -652,24 +654,26 @@ public final class DirectivePrinter {
         private int start;
         /** Where zeros go that widen a number: behind its sign, bracket or base. */
         private int zerosAt;
+        private int behind;
+        private boolean withExponent;
 
-        Composer(Row paper) {
-            this.paper = paper;
+        Composer() {
+            paper = new Row(MOST_PRINTED);
             figures = new Figures();
             start = 0;
             zerosAt = NONE;
+            behind = 0;
+            withExponent = false;
         }
 
-        void composeBare(Directive directive) {
-            begin();
-            paper.add(directive.conversion == 'n' ? '\n' : '%');
-            widen(directive);
-        }
-
+        /** The argument is null for a directive that takes none. */
         void compose(Directive directive, Argument argument) {
-            begin();
+            start = paper.size();
+            zerosAt = NONE;
             char conversion = directive.smallConversion();
-            if (conversion == 'b') {
+            if (argument == null) {
+                paper.add(conversion == 'n' ? '\n' : '%');
+            } else if (conversion == 'b') {
                 paper.addWord(argument.isFalse() ? "false" : "true");
                 shorten(directive);
             } else if (conversion == 's') {
@@ -688,11 +692,6 @@ public final class DirectivePrinter {
             if (directive.isLarge()) {
                 paper.enlargeLettersFrom(start);
             }
-        }
-
-        private void begin() {
-            start = paper.size();
-            zerosAt = NONE;
         }
 
         private void shorten(Directive directive) {
@@ -722,17 +721,13 @@ public final class DirectivePrinter {
             } else if (argument.kind == Kind.TEXT) {
                 paper.addRow(argument.characters);
             } else {
-                addPlainNumber(argument);
+                if (argument.value < 0L) {
+                    paper.add('-');
+                }
+                figures.takeDecimal(argument.value, argument.scale());
+                behind = argument.scale();
+                addFixed(false, false);
             }
-        }
-
-        private void addPlainNumber(Argument argument) {
-            int scale = argument.kind == Kind.DECIMAL ? argument.size : 0;
-            if (argument.value < 0L) {
-                paper.add('-');
-            }
-            figures.takeDecimal(argument.value, scale);
-            addFixed(scale, false, false);
         }
 
         private void addBits(Directive directive, Argument argument) {
@@ -742,7 +737,8 @@ public final class DirectivePrinter {
             }
             zerosAt = paper.size();
             figures.takeBits(argument.value, argument.size, octal ? 3 : 4);
-            addFixed(0, false, false);
+            behind = 0;
+            addFixed(false, false);
         }
 
         private void addSigned(Directive directive, Argument argument) {
@@ -756,62 +752,59 @@ public final class DirectivePrinter {
                 paper.add(' ');
             }
             zerosAt = paper.size();
-            addSize(directive, argument);
+            figures.takeDecimal(argument.value, argument.scale());
+            roundFor(directive);
+            if (withExponent) {
+                addWithExponent(directive.has(Directive.SHARP));
+            } else {
+                addFixed(directive.has(Directive.COMMA), directive.has(Directive.SHARP));
+            }
             if (bracket) {
                 paper.add(')');
             }
         }
 
-        private void addSize(Directive directive, Argument argument) {
-            boolean grouped = directive.has(Directive.COMMA);
-            boolean pointed = directive.has(Directive.SHARP);
+        /** Settles, too, the form and how many digits stand behind the point, since g needs them rounded. */
+        private void roundFor(Directive directive) {
             int precision = directive.precisionOr(USUAL_PRECISION);
+            withExponent = false;
             switch (directive.smallConversion()) {
                 case 'd':
-                    figures.takeDecimal(argument.value, 0);
-                    addFixed(0, grouped, false);
+                    behind = 0;
                     break;
                 case 'f':
-                    figures.takeDecimal(argument.value, argument.size);
+                    behind = precision;
                     figures.roundTo(-precision);
-                    addFixed(precision, grouped, pointed);
                     break;
                 case 'e':
-                    figures.takeDecimal(argument.value, argument.size);
-                    addWithExponent(precision, pointed);
+                    behind = precision;
+                    withExponent = true;
+                    figures.roundTo(figures.top() - precision);
                     break;
                 default:
-                    figures.takeDecimal(argument.value, argument.size);
-                    addGeneral(Math.max(precision, 1), grouped);
+                    int inAll = Math.max(precision, 1);
+                    figures.roundTo(figures.top() - (inAll - 1));
+                    int exponent = figures.exponent();
+                    withExponent = exponent < LOWEST_FIXED_EXPONENT || exponent >= inAll;
+                    behind = withExponent ? inAll - 1 : inAll - 1 - exponent;
                     break;
             }
         }
 
-        private void addGeneral(int precision, boolean grouped) {
-            figures.roundTo(figures.top() - (precision - 1));
-            int exponent = figures.exponent();
-            if (exponent >= LOWEST_FIXED_EXPONENT && exponent < precision) {
-                addFixed(precision - 1 - exponent, grouped, false);
-            } else {
-                addWithExponent(precision - 1, false);
-            }
-        }
-
-        private void addFixed(int behind, boolean grouped, boolean pointed) {
+        private void addFixed(boolean grouped, boolean pointed) {
             for (int power = Math.max(figures.top(), 0); power >= 0; power--) {
                 paper.add(figures.sign(power));
                 if (grouped && power > 0 && power % 3 == 0) {
                     paper.add(',');
                 }
             }
-            addBehindPoint(-1, behind, pointed);
+            addBehindPoint(-1, pointed);
         }
 
-        private void addWithExponent(int behind, boolean pointed) {
-            figures.roundTo(figures.top() - behind);
+        private void addWithExponent(boolean pointed) {
             int exponent = figures.exponent();
             paper.add(figures.sign(exponent));
-            addBehindPoint(exponent - 1, behind, pointed);
+            addBehindPoint(exponent - 1, pointed);
             paper.add('e');
             paper.add(exponent < 0 ? '-' : '+');
             // two digits are enough: no exponent is below -40 or above 18
@@ -821,7 +814,7 @@ public final class DirectivePrinter {
         }
 
         /** Zeros behind the last known digit are added at once, since there may be thousands. */
-        private void addBehindPoint(int firstPower, int behind, boolean pointed) {
+        private void addBehindPoint(int firstPower, boolean pointed) {
             if (behind > 0 || pointed) {
                 paper.add('.');
             }
