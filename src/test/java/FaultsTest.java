@@ -21,23 +21,8 @@ public final class FaultsTest {
         Check.end();
     }
 
-    /** nothing, truth, character, whole 8, 16, 32, 64, text, decimal. */
-    private static DirectivePrinter allKinds() {
-        DirectivePrinter x = new DirectivePrinter();
-        x.nothing();
-        x.truth(true);
-        x.symbol('k');
-        x.whole(8, 65L);
-        x.whole(16, 66L);
-        x.whole(32, 67L);
-        x.whole(64, 68L);
-        Check.text(x, "t");
-        x.decimal(15L, 1);
-        return x;
-    }
-
     private static void formatEnds() {
-        DirectivePrinter x = allKinds();
+        DirectivePrinter x = Printers.allKinds();
         String[] cut = {"%", "%5", "%1$", "%-", "%0", "%-#+0,(< ", "%5.3", "%.0", "%12345678901", "%1$-5.2", "%00",
             "%--", "%1$<"};
         for (String directive : cut) {
@@ -47,7 +32,7 @@ public final class FaultsTest {
     }
 
     private static void unknownConversions() {
-        DirectivePrinter x = allKinds();
+        DirectivePrinter x = Printers.allKinds();
         for (char c = 0; c < 256; c++) {
             boolean other = "-#+0,(< ".indexOf(c) >= 0 || c >= '0' && c <= '9';
             if (!other && CONVERSIONS.indexOf(c) < 0) {
@@ -63,7 +48,7 @@ public final class FaultsTest {
     }
 
     private static void flagsTwice() {
-        DirectivePrinter x = allKinds();
+        DirectivePrinter x = Printers.allKinds();
         for (char flag : "-#+0,(< ".toCharArray()) {
             for (char conversion : CONVERSIONS.toCharArray()) {
                 Check.faults(x, "%" + flag + flag + "5" + conversion, 3, 0);
@@ -75,7 +60,7 @@ public final class FaultsTest {
     }
 
     private static void lineFeeds() {
-        DirectivePrinter x = allKinds();
+        DirectivePrinter x = Printers.allKinds();
         String[] dressed = {"%5n", "%.1n", "%.0n", "%-n", "%<n", "%0n", "% n", "%#n", "%+n", "%,n", "%(n", "%-5n", "%-05.3n"};
         for (String directive : dressed) {
             Check.faults(x, directive, 4, 0);
@@ -84,7 +69,7 @@ public final class FaultsTest {
     }
 
     private static void precisions() {
-        DirectivePrinter x = allKinds();
+        DirectivePrinter x = Printers.allKinds();
         for (char conversion : "cCdoxX%".toCharArray()) {
             Check.faults(x, "%.0" + conversion, 5, 0);
             Check.faults(x, "%6$5.2" + conversion, 5, 0);
@@ -93,7 +78,7 @@ public final class FaultsTest {
     }
 
     private static void flags() {
-        DirectivePrinter x = allKinds();
+        DirectivePrinter x = Printers.allKinds();
         for (char conversion : CONVERSIONS.toCharArray()) {
             for (char flag : "-#+0,(< ".toCharArray()) {
                 boolean barred = barredFlags(conversion).indexOf(flag) >= 0;
@@ -134,7 +119,7 @@ public final class FaultsTest {
     }
 
     private static void widthsMissing() {
-        DirectivePrinter x = allKinds();
+        DirectivePrinter x = Printers.allKinds();
         for (char conversion : "bBsScCdoxXfeEgG%".toCharArray()) {
             Check.faults(x, "%-" + conversion, 7, 0);
         }
@@ -147,7 +132,7 @@ public final class FaultsTest {
     }
 
     private static void clashes() {
-        DirectivePrinter x = allKinds();
+        DirectivePrinter x = Printers.allKinds();
         for (char conversion : "doxXfeEgG".toCharArray()) {
             Check.faults(x, "%-05" + conversion, 8, 0);
             Check.faults(x, "%0-5" + conversion, 8, 0);
@@ -183,7 +168,7 @@ public final class FaultsTest {
     }
 
     private static void kinds() {
-        DirectivePrinter x = allKinds();
+        DirectivePrinter x = Printers.allKinds();
         for (char conversion : "bBsScCdoxXfeEgG".toCharArray()) {
             for (int number = 1; number <= 9; number++) {
                 String got = Check.outcome(x, " %" + number + "$" + conversion);
@@ -232,7 +217,7 @@ public final class FaultsTest {
     }
 
     private static void lengths() {
-        DirectivePrinter x = allKinds();
+        DirectivePrinter x = Printers.allKinds();
         Check.faults(x, "%4097s", 12, 0);
         Check.faults(x, "%-4097s", 12, 0);
         Check.faults(x, "%6$04097d", 12, 0);
@@ -276,7 +261,7 @@ public final class FaultsTest {
     }
 
     private static void firstDirectiveCounts() {
-        DirectivePrinter x = allKinds();
+        DirectivePrinter x = Printers.allKinds();
         Check.faults(x, "%s%d%q%", 10, 2);
         Check.faults(x, "%s ok %b %q %--d", 2, 9);
         Check.faults(x, "%%%%%s%", 1, 6);

@@ -19,14 +19,6 @@ public final class PrintTest {
         Check.end();
     }
 
-    private static DirectivePrinter wholes(int bits, long... values) {
-        DirectivePrinter x = new DirectivePrinter();
-        for (long value : values) {
-            x.whole(bits, value);
-        }
-        return x;
-    }
-
     private static DirectivePrinter decimals(long... unscaledAndScales) {
         DirectivePrinter x = new DirectivePrinter();
         for (int i = 0; i + 1 < unscaledAndScales.length; i += 2) {
@@ -46,7 +38,7 @@ public final class PrintTest {
     }
 
     private static void choiceOfArguments() {
-        DirectivePrinter x = wholes(32, 1, 2, 3, 4, 5, 6, 7, 8, 9);
+        DirectivePrinter x = Printers.wholes(32, 1, 2, 3, 4, 5, 6, 7, 8, 9);
         Check.prints(x, "%d%d%d%d%d%d%d%d%d", "123456789");
         Check.prints(x, "%9$d%d%3$d%d%<d%<d%d", "9132223");
         Check.prints(x, "%4$d%<d%%%n%<d%d%<d", "44%\n411");
@@ -103,7 +95,7 @@ public final class PrintTest {
     }
 
     private static void wholes() {
-        DirectivePrinter x = wholes(64, 0L, 7L, -7L, 1000L, -999L, 1234567L, Long.MIN_VALUE, Long.MAX_VALUE, 999999L);
+        DirectivePrinter x = Printers.wholes(64, 0L, 7L, -7L, 1000L, -999L, 1234567L, Long.MIN_VALUE, Long.MAX_VALUE, 999999L);
         Check.prints(x, "%d %d %d %d %d", "0 7 -7 1000 -999");
         Check.prints(x, "%,d %4$,d %5$,d %6$,d %9$,d", "0 1,000 -999 1,234,567 999,999");
         Check.prints(x, "%7$,d %8$d", "-9,223,372,036,854,775,808 9223372036854775807");

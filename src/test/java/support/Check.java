@@ -4,6 +4,7 @@ import java.nio.charset.StandardCharsets;
 final class Check {
     private static int asked = 0;
     private static int wrong = 0;
+    private static String test = "";
 
     private Check() {
     }
@@ -13,9 +14,22 @@ final class Check {
         if (!got.equals(want)) {
             wrong++;
             if (wrong <= 50) {
-                System.out.println(call + " answered " + shown(got) + ", due is " + shown(want));
+                System.out.println(test + call + " answered " + shown(got) + ", due is " + shown(want));
             }
         }
+    }
+
+    /** Names the test before each answer that is not due; a test that looks at none proves nothing. */
+    static void within(String name, Runnable body) {
+        int before = asked;
+        test = name + ": ";
+        try {
+            body.run();
+        } catch (RuntimeException e) {
+            due("a call that must not throw", e, "an answer");
+        }
+        test = "";
+        due(name + " looks at answers", asked > before, true);
     }
 
     /** A call that may throw; Java's own functional types don't let it be told shortly. */
@@ -53,6 +67,7 @@ final class Check {
         return answer;
     }
 
+    /** A text, which is the argument behind those that the printer has. */
     static void text(DirectivePrinter printer, String text) {
         format(printer, text);
         printer.text();
@@ -89,6 +104,22 @@ final class Check {
 
     static void prints(DirectivePrinter printer, String format, String want) {
         due("print() by " + shown(format), outcome(printer, format), "\"" + want + "\"");
+    }
+
+    /** No fault is met, whatever is printed. */
+    static void printsSomething(DirectivePrinter printer, String format) {
+        due("print() by " + shown(format), outcome(printer, format).matches("(?s)\".*\"") ? "a text" : "none", "a text");
+    }
+
+    static void wholePrints(int bits, long value, String format, String want) {
+        due("whole(" + bits + ", " + value + ") by " + shown(format),
+                outcome(Printers.wholes(bits, value), format), "\"" + want + "\"");
+    }
+
+    /** The decimal as it is written: 1.50 has the scale 2. */
+    static void decimalPrints(String written, String format, String want) {
+        due("the decimal " + written + " by " + shown(format),
+                outcome(Printers.decimals(written), format), "\"" + want + "\"");
     }
 
     static void faults(DirectivePrinter printer, String format, int fault, int place) {
