@@ -1,18 +1,10 @@
 import java.math.BigDecimal;
 import java.util.ArrayList;
 import java.util.List;
-import java.util.Random;
 
 /** Compares the class with the model: all flags with all conversions and kinds, then odd formats. */
 public final class ModelTest {
-    private static final String FLAGS = "-#+0,(< ";
-    private static final String CONVERSIONS = "bBsScCdoxXfeEgG%n";
-    private static final long[] LONGS = {0, 1, -1, 5, 9, 10, -49, 50, 65, 99, 100, 127, -128, 255, 256, 999, 1000, -9995,
-        9999, 12345, 99995, 999995, 999999, 1000000, 1234567, -123456789, 314159265, 4294967295L, 999999999999L,
-        Long.MAX_VALUE, Long.MIN_VALUE, Long.MAX_VALUE - 1, 9000000000000000000L, 999999999999999999L};
-    private static final int[] BITS = {8, 16, 32, 64};
-
-    private final Random random = new Random(20261115L);
+    private final Chance chance = new Chance(20261115L);
     private final DirectivePrinter printer = new DirectivePrinter();
     private final List<Object> arguments = new ArrayList<>();
 
@@ -78,7 +70,7 @@ public final class ModelTest {
             addWhole(64, round == 0 ? Long.MIN_VALUE : 1234567890123L);
             addDecimal(round == 0 ? -123456789L : 0L, 4);
             addDecimal(round == 0 ? Long.MIN_VALUE : 99999L, round == 0 ? 2 : 9);
-            for (char conversion : CONVERSIONS.toCharArray()) {
+            for (char conversion : Chance.CONVERSIONS.toCharArray()) {
                 for (int set = 0; set < 256; set++) {
                     String flags = flagsOf(set);
                     for (String size : sizes) {
@@ -94,16 +86,16 @@ public final class ModelTest {
 
     private String flagsOf(int set) {
         StringBuilder flags = new StringBuilder();
-        for (int i = 0; i < FLAGS.length(); i++) {
+        for (int i = 0; i < Chance.FLAGS.length(); i++) {
             if ((set >> i & 1) != 0) {
-                flags.insert(random.nextInt(flags.length() + 1), FLAGS.charAt(i));
+                flags.insert(chance.below(flags.length() + 1), Chance.FLAGS.charAt(i));
             }
         }
         return flags.toString();
     }
 
     private void roundings() {
-        for (long unscaled : LONGS) {
+        for (long unscaled : Chance.LONGS) {
             for (int scale = 0; scale <= 40; scale++) {
                 clear();
                 addDecimal(unscaled, scale);
@@ -115,94 +107,50 @@ public final class ModelTest {
         }
         for (int i = 0; i < 100000; i++) {
             clear();
-            addDecimal(anyLong(), random.nextInt(41));
-            int precision = random.nextInt(24);
+            addDecimal(chance.anyLong(), chance.below(41));
+            int precision = chance.below(24);
             compare("%." + precision + "f %<." + precision + "e %<." + precision + "g");
         }
-    }
-
-    private long anyLong() {
-        if (random.nextInt(3) == 0) {
-            return LONGS[random.nextInt(LONGS.length)];
-        }
-        long value = random.nextLong() >> random.nextInt(64);
-        // many nines or a five at the end, where rounding is decided
-        return random.nextInt(3) == 0 ? value / 100000L * 100000L + 99995L : value;
     }
 
     private void oddFormats() {
         for (int i = 0; i < 200000; i++) {
             if (i % 10 == 0) {
                 clear();
-                int count = random.nextInt(10);
+                int count = chance.below(10);
                 for (int k = 0; k < count; k++) {
                     addAny();
                 }
             }
             StringBuilder format = new StringBuilder();
-            int pieces = 1 + random.nextInt(6);
+            int pieces = 1 + chance.below(6);
             for (int k = 0; k < pieces; k++) {
-                format.append(anyPiece());
+                format.append(chance.piece());
             }
             compare(format.substring(0, Math.min(format.length(), 256)));
         }
     }
 
     private void addAny() {
-        switch (random.nextInt(6)) {
+        switch (chance.below(6)) {
             case 0:
                 addNothing();
                 break;
             case 1:
-                addTruth(random.nextBoolean());
+                addTruth(chance.truth());
                 break;
             case 2:
-                addSymbol(random.nextInt(256));
+                addSymbol(chance.below(256));
                 break;
             case 3:
-                addWhole(BITS[random.nextInt(4)], anyLong());
+                addWhole(chance.oneOf(8, 16, 32, 64), chance.anyLong());
                 break;
             case 4:
-                addText("Text %d \u00fcz".repeat(6).substring(0, random.nextInt(55)));
+                addText("Text %d \u00fcz".repeat(6).substring(0, chance.below(55)));
                 break;
             default:
-                addDecimal(anyLong(), random.nextInt(41));
+                addDecimal(chance.anyLong(), chance.below(41));
                 break;
         }
-    }
-
-    private String anyPiece() {
-        int way = random.nextInt(12);
-        if (way == 0) {
-            return "" + (char) random.nextInt(256);
-        }
-        if (way == 1) {
-            return anyOf("%$.-#+0,(< 123bsdfgn", 1 + random.nextInt(5));
-        }
-        StringBuilder piece = new StringBuilder("%");
-        if (random.nextInt(3) == 0) {
-            piece.append(anyNumber(10)).append('$');
-        }
-        piece.append(anyOf(FLAGS, Math.max(0, random.nextInt(5) - 2)));
-        if (random.nextInt(2) == 0) {
-            piece.append(anyNumber(30));
-        }
-        if (random.nextInt(3) == 0) {
-            piece.append('.').append(anyNumber(20));
-        }
-        return piece.append(anyOf(CONVERSIONS, 1)).toString();
-    }
-
-    private String anyNumber(int usual) {
-        int way = random.nextInt(40);
-        return way == 0 ? "4096" : way == 1 ? "123456789012345" : way == 2 ? "2040" : "" + random.nextInt(usual);
-    }
-
-    private String anyOf(String characters, int count) {
-        StringBuilder text = new StringBuilder();
-        for (int i = 0; i < count; i++) {
-            text.append(characters.charAt(random.nextInt(characters.length())));
-        }
-        return text.toString();
     }
 }

@@ -34,7 +34,7 @@ final class Sentence {
         Check.within(name, test);
     }
 
-    private static String section(String heading) {
+    static String section(String heading) {
         int start = TEXT.indexOf("\n## " + heading);
         if (start < 0) {
             return "";
